@@ -1081,13 +1081,14 @@ public final class MissedSale {
         }
 
         int firstWrong(Shelf catalogue, Shelf book) {
-            sellsAll(catalogue);
+            listed = lengthOf(catalogue);
             for (int k = 0; k < book.length; k++) {
                 if (k >= listed) {
                     return k;
                 }
+                int who = sellsOne((int) catalogue.at(k));
                 // what stays can be told by UNKNOWN alone, and UNKNOWN is never wrong
-                if (book.at(k) != UNKNOWN && (won[k] == NOT || book.at(k) != won[k])) {
+                if (book.at(k) != UNKNOWN && (who == NOT || book.at(k) != who)) {
                     return k;
                 }
             }
@@ -1220,29 +1221,37 @@ public final class MissedSale {
         private static final long YEAR = 4782969;
 
         private final long[] best = new long[1 << THINGS];
+        private final long[] worth = new long[THINGS];
         private long answer;
 
         void deals(Thought thought) {
+            int open = thought.open & best.length - 1;
             Arrays.fill(best, 0);
             for (int bidder = thought.house.bidders - 1; bidder >= 0; bidder--) {
+                weigh(thought, bidder);
                 // from all things down: a smaller set still tells of the BIDDERS behind alone
-                for (int set = best.length - 1; set > 0; set--) {
-                    if ((set & ~thought.open) == 0) {
-                        best[set] = bestWith(thought, bidder, set);
+                for (int set = open; set > 0; set--) {
+                    if ((set & ~open) == 0) {
+                        best[set] = bestOf(set);
                     }
                 }
             }
-            answer = best[thought.open & best.length - 1];
+            answer = best[open];
         }
 
-        private long bestWith(Thought thought, int bidder, int set) {
+        private void weigh(Thought thought, int bidder) {
+            for (int thing = 0; thing < thought.house.things; thing++) {
+                int kind = thought.house.number(thing, KIND);
+                long years = thought.misses(bidder, kind, thought.had[bidder]);
+                worth[thing] = years * YEAR + (NONE - thing) * WEIGHT[bidder];
+            }
+        }
+
+        private long bestOf(int set) {
             long found = best[set];
             for (int thing = 0; thing < THINGS; thing++) {
                 if ((set >> thing & 1) != 0) {
-                    int kind = thought.house.number(thing, KIND);
-                    long years = thought.misses(bidder, kind, thought.had[bidder]);
-                    long worth = years * YEAR + (NONE - thing) * WEIGHT[bidder];
-                    found = Math.max(found, worth + best[set & ~(1 << thing)]);
+                    found = Math.max(found, worth[thing] + best[set & ~(1 << thing)]);
                 }
             }
             return found;
