@@ -53,14 +53,14 @@ public final class MissedSale {
         if (kind < 0 || kind >= KINDS) {
             return BAD;
         }
-        return house.things >= THINGS ? FULL : house.addThing(kind);
+        return house.addThing(kind);
     }
 
     public int bidder(int constant, int life) {
         if (!isWithin(CONSTANT, constant) || !isWithin(LIFE, life)) {
             return BAD;
         }
-        return house.bidders >= BIDDERS ? FULL : house.addBidder(constant, life, 0);
+        return house.addBidder(constant, life, 0);
     }
 
     public int bidders(int shelf, int i, int n) {
@@ -88,12 +88,8 @@ public final class MissedSale {
         int constant = (int) from.at(place);
         int life = (int) from.at(place + 1);
         int feigns = (int) from.at(place + 2);
-        if (house.bidders >= BIDDERS || !isWithin(CONSTANT, constant)
-                || !isWithin(LIFE, life) || !isWithin(FEIGNS, feigns)) {
-            return false;
-        }
-        house.addBidder(constant, life, feigns);
-        return true;
+        return isWithin(CONSTANT, constant) && isWithin(LIFE, life) && isWithin(FEIGNS, feigns)
+                && house.addBidder(constant, life, feigns) != FULL;
     }
 
     public int mend(int number, int what, int v) {
@@ -579,25 +575,27 @@ public final class MissedSale {
         }
 
         int number(int one, int what) {
-            if (!has(one, what)) {
-                return 0;
+            if (what >= 0 && what < CONSTANT && one >= 0 && one < things) {
+                return thingRow[one * OF_THING + what];
             }
-            return what < CONSTANT ? thingRow[one * OF_THING + what]
-                    : bidderRow[one * OF_BIDDER + what - CONSTANT];
+            if (what >= CONSTANT && what < WHATS && one >= 0 && one < bidders) {
+                return bidderRow[one * OF_BIDDER + what - CONSTANT];
+            }
+            return 0;
         }
 
         void become(int one, int what, int v) {
-            if (!has(one, what)) {
-                return;
-            }
-            if (what < CONSTANT) {
+            if (what >= 0 && what < CONSTANT && one >= 0 && one < things) {
                 thingRow[one * OF_THING + what] = v;
-            } else {
+            } else if (what >= CONSTANT && what < WHATS && one >= 0 && one < bidders) {
                 bidderRow[one * OF_BIDDER + what - CONSTANT] = v;
             }
         }
 
         int addThing(int kind) {
+            if (things >= THINGS) {
+                return FULL;
+            }
             int came = things;
             things++;
             become(came, KIND, kind);
@@ -606,6 +604,9 @@ public final class MissedSale {
         }
 
         int addBidder(int constant, int life, int feigns) {
+            if (bidders >= BIDDERS) {
+                return FULL;
+            }
             int came = bidders;
             bidders++;
             become(came, CONSTANT, constant);
@@ -661,8 +662,8 @@ public final class MissedSale {
     }
 
     /**
-     * THE TAPE and THE LAW. A text is turned once into steps for a stack: a number stands for itself,
-     * -1 .. -6 for the NAMES, the negative of a sign for what it does.
+     * THE TAPE and THE LAW. A text is turned once into steps for a stack: a number stands for
+     * itself, -1 .. -6 for the NAMES, the negative of a sign for what it does.
      */
     private static final class Law {
         private static final int TAPE = 120, NESTED = 6, STEPS = 128, STACK = 64;
@@ -679,7 +680,6 @@ public final class MissedSale {
         private int place;
         private int drafted;
         private int length;
-        private int top;
         private boolean isTold;
 
         boolean isTapeFull() {
@@ -835,7 +835,7 @@ public final class MissedSale {
             }
         }
 
-        /** What THE LAW gives, not yet held within 0 .. 99. */
+        /** What THE LAW gives, not yet held within 0 .. 99; no step can lack its numbers. */
         int gives(int c, int l, int h, int v, int n, int m) {
             if (!isTold) {
                 return Math.min(c * v, l + h) - 5 * n;
@@ -846,35 +846,37 @@ public final class MissedSale {
             names[3] = v;
             names[4] = n;
             names[5] = m;
-            top = 0;
+            int top = 0;
             for (int at = 0; at < length; at++) {
                 int step = steps[at];
+                if (step >= -names.length) {
+                    if (top >= STACK) {
+                        return 0;
+                    }
+                    stack[top] = step >= 0 ? step : names[-1 - step];
+                    top++;
+                    continue;
+                }
+                if (top < 1) {
+                    return 0;
+                }
+                int right = stack[top - 1];
                 if (step == END) {
-                    return pop();
+                    return right;
                 }
                 if (step <= SKIP) {
-                    at = pop() != 0 ? at : Math.max(at, SKIP - step - 1);
+                    top--;
+                    at = right != 0 ? at : Math.max(at, SKIP - step - 1);
+                } else if (step == -'!' || step == -NEGATE) {
+                    stack[top - 1] = step == -NEGATE ? -right : right == 0 ? 1 : 0;
+                } else if (top < 2) {
+                    return 0;
                 } else {
-                    doStep(step);
+                    top--;
+                    stack[top - 1] = worked(-step, stack[top - 1], right);
                 }
             }
             return 0;
-        }
-
-        private void doStep(int step) {
-            if (step >= 0) {
-                push(step);
-            } else if (step >= -names.length) {
-                push(names[-1 - step]);
-            } else if (step == -'!') {
-                push(pop() == 0 ? 1 : 0);
-            } else if (step == -NEGATE) {
-                push(-pop());
-            } else {
-                int right = pop();
-                int left = pop();
-                push(worked(-step, left, right));
-            }
         }
 
         private static int worked(int sign, int left, int right) {
@@ -891,21 +893,6 @@ public final class MissedSale {
                 case '%': return right == 0 ? 0 : left % right;
                 default: return 0;
             }
-        }
-
-        private void push(int v) {
-            if (top < STACK) {
-                stack[top] = v;
-                top++;
-            }
-        }
-
-        private int pop() {
-            if (top <= 0) {
-                return 0;
-            }
-            top--;
-            return stack[top];
         }
     }
 
@@ -963,8 +950,11 @@ public final class MissedSale {
         /** One number of a BIDDER becomes another in thought, and what he would miss is new. */
         void varies(int bidder, int what, int v) {
             house.become(bidder, what, v);
-            int from = bidder * KINDS * HAD;
-            Arrays.fill(known, from, from + KINDS * HAD, NOT_YET);
+            if (house.hasBidder(bidder)) {
+                for (int i = 0; i < KINDS * HAD; i++) {
+                    known[bidder * KINDS * HAD + i] = NOT_YET;
+                }
+            }
             restarts();
         }
 
@@ -990,13 +980,9 @@ public final class MissedSale {
             }
         }
 
-        private boolean isExamined(int bidder) {
-            return house.number(bidder, SLIPS) != 0 || (slipped >> bidder & 1) != 0;
-        }
-
         int bid(int bidder) {
             int feigns = house.number(bidder, FEIGNS);
-            if (isExamined(bidder)) {
+            if (house.number(bidder, SLIPS) != 0 || (slipped >> bidder & 1) != 0) {
                 return feigns > 0 ? 0 : would[bidder];
             }
             return Math.min(YEARS, would[bidder] + feigns);
@@ -1126,7 +1112,7 @@ public final class MissedSale {
             this.thought = thought;
         }
 
-        /** The most THINGS that one has behind an order of all that is open; the order is in best. */
+        /** The most THINGS that one has behind an order of all that is open; best is the order. */
         int orders(int one, int many) {
             most = -1;
             ordered = Math.min(many, ORDERED);
@@ -1212,8 +1198,8 @@ public final class MissedSale {
     }
 
     /**
-     * DEALT. One number holds the years and, below them, a digit for each BIDDER's THING, the first
-     * BIDDER's highest, larger for a lower THING and 0 for none: so the greatest number is the answer.
+     * DEALT. One number holds the years and, below them, a digit for each BIDDER's THING, the
+     * first BIDDER's highest, larger for a lower THING and 0 for none: the greatest is the answer.
      */
     private static final class Dealing {
         private static final int NONE = 8, DIGIT = 9;
