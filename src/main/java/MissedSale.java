@@ -1028,7 +1028,7 @@ public final class MissedSale {
             open |= 1 << thing;
             if (who == PIECES) {
                 pieces--;
-            } else {
+            } else if (house.hasBidder(who)) {
                 sold--;
                 had[who]--;
             }

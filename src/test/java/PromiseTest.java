@@ -221,7 +221,21 @@ public final class PromiseTest {
         due("8 six signs", 5, given("------c"));
         due("8 six of all", 1, given("!(!(-(c)))"));
         due("8 opened again behind", 10, given("((((((c))))))+------c"));
+        due("8 six open behind ?", 5, given("1?((((((c))))))"));
+        due("8 | behind ?", 1, given("1?m|v"));
         missedByLaw();
+        all8();
+    }
+
+    private void all8() {
+        house(8, 1);
+        Check.law(x, "n*9");
+        for (int thing = 0; thing < 8; thing++) {
+            due("9 n " + thing, 9 * thing, x.years(0, 0));
+            x.mend(thing, 1, 0);
+        }
+        due("9 n 8", 72, x.years(0, 0));
+        due("25 without it", 63, x.loses(0));
     }
 
     private void missedByLaw() {
