@@ -64,7 +64,7 @@ public final class MissedSale {
     }
 
     public int bidders(int shelf, int i, int n) {
-        if (!isShelf(shelf) || i < 0 || n < 1 || n > BIDDERS) {
+        if (!isShelf(shelf) || n < 1 || n > BIDDERS) {
             return BAD;
         }
         Shelf from = shelves[shelf];
@@ -75,7 +75,8 @@ public final class MissedSale {
             return OTHER_KIND;
         }
         int came = 0;
-        for (int place = i; came < n && place <= from.length - 3; place += 3) {
+        // a place below 0 is not BAD: the row has nothing there, so it ends at once
+        for (int place = i; came < n && from.hasRun(place, 3); place += 3) {
             if (!comesFrom(from, place)) {
                 break;
             }

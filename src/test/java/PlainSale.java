@@ -232,7 +232,7 @@ final class PlainSale {
     }
 
     int bidders(int shelf, int i, int n) {
-        if (!isShelf(shelf) || i < 0 || n < 1 || n > 7) {
+        if (!isShelf(shelf) || n < 1 || n > 7) {
             return BAD;
         }
         if (shelves[shelf] == null) {
@@ -244,7 +244,7 @@ final class PlainSale {
         byte[] row = (byte[]) shelves[shelf];
         int came = 0;
         long at = i;
-        while (came < n && at + 2 < row.length) {
+        while (came < n && at >= 0 && at + 2 < row.length) {
             int c = row[(int) at];
             int l = row[(int) at + 1];
             int f = row[(int) at + 2];

@@ -37,6 +37,7 @@ public final class PromiseTest {
         thingsCome();
         biddersCome();
         biddersFromRow();
+        biddersFromBelowZero();
         mends();
         tape();
         laws();
@@ -100,7 +101,6 @@ public final class PromiseTest {
         due("4 no shelf", BAD, x.bidders(6, 0, 1));
         due("4 n 0", BAD, x.bidders(0, 0, 0));
         due("4 n 8", BAD, x.bidders(0, 0, 8));
-        due("4 i -1", BAD, x.bidders(0, -1, 1));
         due("4 the row is missing", 0, x.bidders(0, 0, 1));
         x.row(1, 1, 9);
         due("4 shorts", -12, x.bidders(1, 0, 1));
@@ -129,6 +129,28 @@ public final class PromiseTest {
         due("4 FULL", 2, x.bidders(0, 57 - 12, 5));
         due("4 all are there", 7, x.count(1));
         due("4 FULL at once", 0, x.bidders(0, 0, 1));
+    }
+
+    private void biddersFromBelowZero() {
+        int[] below = {-1, -2, -3, -60, Integer.MIN_VALUE, Integer.MIN_VALUE + 2};
+        x = new MissedSale();
+        x.row(0, 0, 60);
+        x.row(1, 1, 60);
+        x.row(2, 0, 0);
+        x.body(0);
+        x.keep(3, 0);
+        for (int i : below) {
+            due("4 a row from " + i, 0, x.bidders(0, i, 7));
+            due("4 shorts from " + i, -12, x.bidders(1, i, 7));
+            due("4 an empty row from " + i, 0, x.bidders(2, i, 7));
+            due("4 a LOT from " + i, -12, x.bidders(3, i, 7));
+            due("4 nothing from " + i, 0, x.bidders(4, i, 7));
+            due("4 n 0 from " + i, BAD, x.bidders(0, i, 0));
+            due("4 n 8 from " + i, BAD, x.bidders(4, i, 8));
+            due("4 no shelf from " + i, BAD, x.bidders(-1, i, 1));
+        }
+        due("4 none came from below 0", 0, x.count(1));
+        due("4 from 0 they come", 7, x.bidders(0, 0, 7));
     }
 
     private void mends() {
