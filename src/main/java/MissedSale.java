@@ -1074,8 +1074,8 @@ public final class MissedSale {
                     return k;
                 }
                 int who = sellsOne((int) catalogue.at(k));
-                // what stays can be told by UNKNOWN alone, and UNKNOWN is never wrong
-                if (book.at(k) != UNKNOWN && (who == NOT || book.at(k) != who)) {
+                // what stays may be told by NOT itself, or by UNKNOWN, which is never wrong
+                if (book.at(k) != UNKNOWN && book.at(k) != who) {
                     return k;
                 }
             }

@@ -301,7 +301,7 @@ public final class ModelTest {
         due("row", plain.row(book, 0, n), sale.row(book, 0, n));
         for (int k = 0; k < n && k < 16; k++) {
             int who = plain.sale(cat, k);
-            int told = below(12) == 0 ? below(12) : who == -2 || below(6) == 0 ? 10 : who;
+            int told = below(12) == 0 ? below(14) - 2 : below(6) == 0 ? 10 : who;
             callPut(book, k, told);
         }
     }

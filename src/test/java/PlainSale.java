@@ -544,8 +544,7 @@ final class PlainSale {
             if (k >= who.size()) {
                 return k;
             }
-            int due = who.get(k) == NOT ? 10 : who.get(k);
-            if (book[k] != 10 && book[k] != due) {
+            if (book[k] != 10 && book[k] != who.get(k)) {
                 return k;
             }
         }

@@ -632,6 +632,23 @@ public final class PromiseTest {
         due("20 what stays is as 10", NOT, x.judge(1));
         x.put(1, 0, 9);
         due("20 what stays is not passed over", 0, x.judge(1));
+        for (int who = -4; who < 12; who++) {
+            x.put(1, 0, who);
+            due("20 what stays is NOT, or 10, not " + who, who == NOT || who == 10 ? NOT : 0,
+                    x.judge(1));
+        }
+        x.put(1, 0, 4294967294L);
+        due("20 NOT by its low byte", NOT, x.judge(1));
+        Check.bytes(x, 1, NOT, NOT, NOT, NOT);
+        due("20 all stay, THING 0 a second time too", NOT, x.judge(1));
+        Check.bytes(x, 1, NOT, 10, NOT, NOT, NOT);
+        due("20 NOT behind the catalogue is more than it", 4, x.judge(1));
+        x.mend(1, 4, 4);
+        Check.bytes(x, 1, 1, NOT);
+        due("20 what is sold is not NOT", 1, x.judge(1));
+        x.mend(0, 1, 1);
+        Check.bytes(x, 1, NOT);
+        due("20 what is passed over is not NOT", 0, x.judge(1));
         due("20 no shelf", BAD, x.judge(6));
         due("20 no shelf", BAD, x.judge(60));
         due("20 below 0", BAD, x.judge(-1));
@@ -665,6 +682,7 @@ public final class PromiseTest {
         x.put(1, 0, 9);
         due("21 no constant", 0, x.fits(1, 0, 0));
         due("21 no constant", NOT, x.fits(1, 0, 1));
+        fitsWhatStays();
         due("21 no bidder", BAD, x.fits(1, 2, 0));
         due("21 no shelf", BAD, x.fits(66, 0, 0));
         due("21 what 4", BAD, x.fits(1, 0, 4));
@@ -672,6 +690,19 @@ public final class PromiseTest {
         due("21 BAD ahead of -11", BAD, x.fits(55, 2, 0));
         due("21 nothing is changed", 5, x.of(0, 4));
         due("21 nothing is changed", 90, x.of(0, 5));
+    }
+
+    /** The second bids 0 here, so the THING stays if the first does, too. */
+    private void fitsWhatStays() {
+        x.mend(1, 4, 0);
+        x.put(1, 0, NOT);
+        due("21 it stays by one constant", 1, x.fits(1, 0, 0));
+        due("21 that one", 0, x.fits(1, 0, 1));
+        due("21 it stays by one life", 1, x.fits(1, 0, 2));
+        due("21 that one", 0, x.fits(1, 0, 3));
+        due("21 it never stays by the other's", 0, x.fits(1, 1, 0));
+        due("21 nor is there a least", NOT, x.fits(1, 1, 3));
+        x.mend(1, 4, 4);
     }
 
     private void byTurns() {
