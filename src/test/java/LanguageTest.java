@@ -49,9 +49,14 @@ public final class LanguageTest {
                     + String.join(",", types) + ")");
         }
         check.holds("the face is " + want + " but there is " + got, want.equals(got));
+        for (Class<?> inside : MissedSale.class.getDeclaredClasses()) {
+            for (Method method : inside.getDeclaredMethods()) {
+                hidden.add(method.getName());
+            }
+        }
         for (String method : got) {
             String name = method.substring(method.indexOf(' ') + 1, method.indexOf('('));
-            check.holds("no private method is called " + name, !hidden.contains(name));
+            check.holds("no other method is called " + name, !hidden.contains(name));
         }
         Set<String> constants = new TreeSet<>();
         for (Field field : MissedSale.class.getDeclaredFields()) {
