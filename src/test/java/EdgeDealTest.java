@@ -421,12 +421,6 @@ public final class EdgeDealTest extends Edges {
         due("so none fits", NOT, x.fits(1, 0, 1));
     }
 
-    /** How many fit and the least, of the one's CONSTANTS (0, 1) or LIVES (2, 3). */
-    private void fit(String what, int kind, int many, int least) {
-        due(what + ", how many", many, x.fits(1, 0, kind));
-        due(what + ", the least", least, x.fits(1, 0, kind + 1));
-    }
-
     private void constants() {
         says("CONSTANTS: by how many CONSTANTS (0 .. 9) of one all is so; the least (NOT).");
         x = new MissedSale();
@@ -434,47 +428,41 @@ public final class EdgeDealTest extends Edges {
         x.bidder(4, 40);
         x.bidder(9, 40);
         Check.law(x, "c");
-        bytes(0, 0);
-        bytes(1, 1);
-        fit("all but 9", 0, 9, 0);
-        bytes(1, 8);
-        fit("9 alone", 0, 1, 9);
-        bytes(1, 0);
-        fit("none", 0, 0, NOT);
-        x.mend(1, 4, 8);
-        fit("9 alone", 0, 1, 9);
-        x.mend(1, 4, 0);
-        fit("all but 0", 0, 9, 1);
-        bytes(1, NOT);
-        fit("0 alone", 0, 1, 0);
-        bytes(1, 10);
-        fit("all", 0, 10, 0);
-        x.row(1, 0, 0);
-        fit("all by an empty BOOK", 0, 10, 0);
+        fitsFromEndToEnd(0, 4, 9);
         due("he is as he was", 4, x.of(0, 4));
     }
 
     private void lives() {
         says("LIVES: by how many LIVES (0 .. 99); the least (NOT).");
         house(1, 50, 99);
+        fitsFromEndToEnd(2, 5, 99);
+        due("he is as he was", 50, x.of(0, 5));
+    }
+
+    /** How many fit and the least, if each bids just that number of his and the other the most. */
+    private void fitsFromEndToEnd(int what, int number, int most) {
         bytes(0, 0);
         bytes(1, 1);
-        fit("all but 99", 2, 99, 0);
+        fit("all but the most", what, most, 0);
         bytes(1, 8);
-        fit("99 alone", 2, 1, 99);
+        fit("the most alone", what, 1, most);
         bytes(1, 0);
-        fit("none", 2, 0, NOT);
-        x.mend(1, 5, 98);
-        fit("99 alone", 2, 1, 99);
-        x.mend(1, 5, 0);
-        fit("all but 0", 2, 99, 1);
+        fit("none", what, 0, NOT);
+        x.mend(1, number, most - 1);
+        fit("the most alone", what, 1, most);
+        x.mend(1, number, 0);
+        fit("all but 0", what, most, 1);
         bytes(1, NOT);
-        fit("0 alone", 2, 1, 0);
+        fit("0 alone", what, 1, 0);
         bytes(1, 10);
-        fit("all", 2, 100, 0);
+        fit("all", what, most + 1, 0);
         x.row(1, 0, 0);
-        fit("all by an empty BOOK", 2, 100, 0);
-        due("he is as he was", 50, x.of(0, 5));
+        fit("all by an empty BOOK", what, most + 1, 0);
+    }
+
+    private void fit(String told, int what, int many, int least) {
+        due(told + ", how many", many, x.fits(1, 0, what));
+        due(told + ", the least", least, x.fits(1, 0, what + 1));
     }
 
     private void fitsOfTheLast() {
