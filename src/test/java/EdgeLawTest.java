@@ -25,6 +25,7 @@ public final class EdgeLawTest extends Edges {
         test.heldWithin();
         test.faults();
         test.faultsOfLength();
+        test.goesOnUpToTheFault();
         test.lawsThatStay();
         test.withoutText();
         test.hasAndMisses();
@@ -393,6 +394,40 @@ public final class EdgeLawTest extends Edges {
         fault("1+".repeat(59) + "1)", 119);
         fault("1+".repeat(59) + "1(", 119);
         fault("1+".repeat(59) + "+1", 118);
+    }
+
+    /** Each text of a few signs, behind some that leave much open, is ended in all plain ways. */
+    private void goesOnUpToTheFault() {
+        says("the first byte with which no TEXT goes on; the length, if it ends too early.");
+        for (String ahead : new String[] {"", "(!-(-", "c<l", "c?1234", "((((((c"}) {
+            everyText(ahead, 4);
+        }
+    }
+
+    private void everyText(String text, int more) {
+        int answer = Check.law(new MissedSale(), text);
+        if (answer != 1) {
+            int fault = -100 - answer;
+            due("ahead of the fault of " + text, 1, goesOn(text.substring(0, fault)) ? 1 : 0);
+            if (fault < text.length()) {
+                due("with the fault of " + text, 0, goesOn(text.substring(0, fault + 1)) ? 1 : 0);
+            }
+        }
+        for (int i = 0; i < "c1()-!<|?;".length() && more > 0; i++) {
+            everyText(text + "c1()-!<|?;".charAt(i), more - 1);
+        }
+    }
+
+    /** Whether a number, if one is due, and as many ) as are open make a TEXT of it. */
+    private static boolean goesOn(String text) {
+        MissedSale sale = new MissedSale();
+        for (int closed = 0; closed <= 6; closed++) {
+            String end = ")".repeat(closed);
+            if (Check.law(sale, text + end) == 1 || Check.law(sale, text + "0" + end) == 1) {
+                return true;
+            }
+        }
+        return false;
     }
 
     private void lawsThatStay() {
